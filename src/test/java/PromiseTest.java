@@ -370,12 +370,15 @@ public final class PromiseTest {
         }
         for (String bad : new String[] {"a b", "1a", "1 2", "+", "+a", "a+", "a++b", "a*", "*a", "a+*b", "()", "(", ")",
                 "(a", "a)", "(a))", "((a)", ")a(", "a(b)", "(a)b", "(a)(b)", "2(a)", "a==", "==a", "==", "a==b==c",
-                "a===b", "a= =b", "(a==b==c)", "a==b+c==d", "(a=b)", "a+b=c", "(a+)", "(+a)", "a==b)", "a+(b==c"}) {
+                "a===b", "a= =b", "(a==b==c)", "a==b+c==d", "(a=b)", "a+b=c", "(a+)", "(+a)", "a==b)", "a+(b==c",
+                "a)==b", "a)+(b", "a)+b("}) {
             dueSort(bad + ";", 0);
             dueSort("c=" + bad + ";", 0);
         }
         dueSort("c=;", 0);
         dueSort("=;", 0);
+        due("sort(1) of two comparisons", of("1==1;2==2;").sort(1), 1);
+        due("sort(1) behind an open bracket", of("(1==;2==2;").sort(1), 1);
         EditedText x = of("a=1;b;c");
         due("sort(0)", x.sort(0), 2);
         due("sort(1)", x.sort(1), 1);
