@@ -83,6 +83,7 @@ public final class BoundaryTest {
         renameTestsTheLetterFirst();
         renameOfNoDefinition();
         renameCounts();
+        renameLeavesTheRest();
         renameInAFullText();
         clearEmpties();
         lengths();
@@ -429,6 +430,9 @@ public final class BoundaryTest {
         dueItem("(1==1)==(1==1);", 0, 1, true, 1);
         dueItem("(1==1)+(1==1)*(1==1);", 0, 1, true, 2);
         dueItem("1==1;1==1;", 1, 1, true, 1);
+        dueItem("(1==1)*3;(4);", 1, 1, true, 4);
+        dueItem("4;4==4;", 0, 1, true, 4);
+        dueItem("(4);(4==4);", 0, 1, true, 4);
     }
 
     private static void bracketsToTheGreatestDepth() {
@@ -447,6 +451,9 @@ public final class BoundaryTest {
         dueWrong(many("(", 79) + ";", 0);
         dueWrong(many("(", 78) + "1;", 0);
         dueWrong("1" + many(")", 78) + ";", 0);
+        dueWrong("1)+(1;", 0);
+        dueWrong("1)==1;", 0);
+        dueWrong("1)==(1;", 0);
     }
 
     private static void closesTheInnermostOpenBlock() {
@@ -1039,6 +1046,19 @@ public final class BoundaryTest {
         x = of("a=1;{a=2;a;}a;");
         due("rename of the one in the block", x.rename(1, 2), 2);
         due("the text", textOf(x), "a=1;{c=2;c;}a;");
+    }
+
+    private static void renameLeavesTheRest() {
+        begin("promise 5: The name of definition i, and all names that mean it, are replaced");
+        String[] texts = {"ab=1;ab;", "c=1;c;", " ab = 1 ; ab * ab ; ", " c = 1 ; c * c ; ", "{ab=1;ab;}ab;ab",
+            "{c=1;c;}ab;ab", "ab=ab;ab;abc;", "c=ab;c;abc;", "ab=1;c=2;ab+c;", "c=1;c=2;c+c;"};
+        for (int k = 0; k < texts.length; k += 2) {
+            EditedText x = of(texts[k]);
+            x.rename(0, 2);
+            due("the text", textOf(x), texts[k + 1]);
+            due("all answers after rename(0, 2) of " + texts[k],
+                answersAfter(texts[k], y -> y.rename(0, 2)).toString(), answersAfter(texts[k + 1], y -> 0).toString());
+        }
     }
 
     private static void renameInAFullText() {

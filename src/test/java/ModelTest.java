@@ -4,13 +4,14 @@ import java.util.regex.Matcher;
 import java.util.regex.Pattern;
 
 /**
- * Long runs of calls, each answer compared with that of a second reading of the document, which
- * works with strings, patterns and recursion. The runs are the same each time.
+ * Long runs of calls and all short texts, each answer compared with that of a second reading of the
+ * document, which works with strings, patterns and recursion. The runs are the same each time.
  */
 public final class ModelTest {
     private static final String ALPHABET = "abcde01234=+*();{} ";
     private static final int RUNS = 4000;
     private static final int CALLS = 512;
+    private static final int QUESTIONS = 17;
     private static final int BAD = -1;
     private static final int FULL = -2;
     private static final int NONE = -3;
@@ -27,6 +28,40 @@ public final class ModelTest {
             }
         }
         System.out.println(RUNS + " runs are as due");
+        shortTexts(ALPHABET, 3);
+        shortTexts("a=1;{}", 6);
+        shortTexts("1=+*();", 6);
+    }
+
+    private static void shortTexts(String alphabet, int most) {
+        List<String> texts = new ArrayList<>(List.of(""));
+        for (int k = 0; k < texts.size(); k++) {
+            List<String> calls = new ArrayList<>();
+            if (!textIsRight(texts.get(k), calls)) {
+                System.out.println("text " + texts.get(k) + ": " + calls.get(calls.size() - 1));
+                System.exit(1);
+            }
+            for (int c = 0; c < alphabet.length() && texts.get(k).length() < most; c++) {
+                texts.add(texts.get(k) + alphabet.charAt(c));
+            }
+        }
+        System.out.println(texts.size() + " short texts are as due");
+    }
+
+    private static boolean textIsRight(String text, List<String> calls) {
+        EditedText x = new EditedText();
+        Model m = new Model();
+        for (int p = 0; p < text.length(); p++) {
+            x.insert(p, ALPHABET.indexOf(text.charAt(p)));
+        }
+        m.change(text);
+        boolean right = true;
+        for (int at = -1; at <= text.length() && right; at++) {
+            for (int question = 0; question < QUESTIONS && right; question++) {
+                right = answerIsRight(x, m, calls, question, at, at, at);
+            }
+        }
+        return right;
     }
 
     private static int random(int bound) {
@@ -124,7 +159,11 @@ public final class ModelTest {
         int p = near(m.text.length());
         int t = near(m.tokens.size());
         int i = near(m.items.size());
-        switch (random(18)) {
+        return answerIsRight(x, m, calls, random(QUESTIONS), p, t, i);
+    }
+
+    private static boolean answerIsRight(EditedText x, Model m, List<String> calls, int question, int p, int t, int i) {
+        switch (question) {
             case 0: return same(calls, "length()", x.length(), m.text.length());
             case 1: return same(calls, "character(" + p + ")", x.character(p), m.character(p));
             case 2: return same(calls, "tokens()", x.tokens(), m.tokens.size());
@@ -137,11 +176,10 @@ public final class ModelTest {
             case 9: return same(calls, "depth(" + i + ")", x.depth(i), m.isItem(i) ? m.items.get(i).path.size() : NONE);
             case 10: return same(calls, "known(" + i + ")", x.known(i) ? 1 : 0, m.value(i) == null ? 0 : 1);
             case 11: return same(calls, "value(" + i + ")", x.value(i), m.value(i) == null ? 0 : m.value(i));
-            case 12:
-            case 13: return same(calls, "meaning(" + t + ")", x.meaning(t), m.isToken(t) ? m.tokens.get(t).means : NONE);
-            case 14: return same(calls, "uses(" + i + ")", x.uses(i), m.uses(i));
-            case 15: return same(calls, "loose()", x.loose(), m.loose);
-            case 16: return same(calls, "wrong()", x.wrong(), m.items.stream().filter(item -> item.sort == 0).count());
+            case 12: return same(calls, "meaning(" + t + ")", x.meaning(t), m.meaning(t));
+            case 13: return same(calls, "uses(" + i + ")", x.uses(i), m.uses(i));
+            case 14: return same(calls, "loose()", x.loose(), m.loose);
+            case 15: return same(calls, "wrong()", x.wrong(), m.items.stream().filter(item -> item.sort == 0).count());
             default: return same(calls, "digest()", x.digest(), m.digest());
         }
     }
@@ -324,6 +362,10 @@ public final class ModelTest {
 
         Integer value(int i) {
             return isItem(i) ? items.get(i).value : null;
+        }
+
+        int meaning(int t) {
+            return isToken(t) ? tokens.get(t).means : NONE;
         }
 
         int uses(int i) {
