@@ -501,7 +501,7 @@ public final class EditedText {
         for (int t = expressionStart(i); t < itemEnd[i]; t++) {
             switch (tokenKind[t]) {
                 case NAME:
-                    levelProduct[level] *= itemValue[tokenMeaning[t]];
+                    levelProduct[level] *= meantValue(t);
                     break;
                 case NUMBER:
                     levelProduct[level] *= numberValue(t);
@@ -518,8 +518,11 @@ public final class EditedText {
                     openLevel(level);
                     break;
                 case CLOSE_BRACKET:
-                    level--;
-                    levelProduct[level] *= levelValue(level + 1);
+                    // It is never 0 here; the look makes the index below safe by these lines alone.
+                    if (level > 0) {
+                        level--;
+                        levelProduct[level] *= levelValue(level + 1);
+                    }
                     break;
                 default:
                     // "*" asks for nothing: each factor is multiplied in where it stands.
@@ -548,6 +551,11 @@ public final class EditedText {
             return sum;
         }
         return levelLeft[level] == sum ? 1 : 0;
+    }
+
+    private int meantValue(int t) {
+        int d = tokenMeaning[t];
+        return isItem(d) ? itemValue[d] : 0;
     }
 
     private int numberValue(int t) {
