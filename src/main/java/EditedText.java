@@ -518,7 +518,7 @@ public final class EditedText {
                     openLevel(level);
                     break;
                 case CLOSE_BRACKET:
-                    // It is never 0 here; the look makes the index below safe by these lines alone.
+                    // Brackets match, so this always holds; it keeps the index safe by these lines alone.
                     if (level > 0) {
                         level--;
                         levelProduct[level] *= levelValue(level + 1);
